@@ -126,22 +126,22 @@ public final class SoundWords {
   }
 
   public int least() {
-    return hasReading() ? reading.cheapest() : NOT;
+    return reading.find(heard, lexicon) ? reading.cheapest() : NOT;
   }
 
   public int rowSize() {
-    return hasReading() ? reading.row().size() : NOT;
+    return reading.find(heard, lexicon) ? reading.row().size() : NOT;
   }
 
   public int rowAt(int i) {
-    if (!hasReading()) {
+    if (!reading.find(heard, lexicon)) {
       return NOT;
     }
     return within(i, 0, reading.row().size() - 1) ? reading.row().at(i) : BAD;
   }
 
   public int beside() {
-    if (!hasReading()) {
+    if (!reading.find(heard, lexicon)) {
       return NOT;
     }
     int other = reading.cheapestWithAnotherFirst(lexicon);
@@ -186,7 +186,7 @@ public final class SoundWords {
   }
 
   public int edits() {
-    return hasReading() ? editing.fewest(told, reading.row()) : NOT;
+    return reading.find(heard, lexicon) ? editing.fewest(told, reading.row()) : NOT;
   }
 
   public int teach() {
@@ -259,11 +259,6 @@ public final class SoundWords {
   private void endWhatLeansOnThis() {
     reading.end();
     laying.end();
-  }
-
-  private boolean hasReading() {
-    reading.find(heard, lexicon);
-    return reading.cheapest() < NEVER;
   }
 
   private boolean isWord(int word) {
@@ -509,17 +504,18 @@ public final class SoundWords {
       found = false;
     }
 
-    void find(Heard heard, Lexicon lexicon) {
-      if (found) {
-        return;
+    /** Whether there is a reading; if so, what it costs and its row can be asked for. */
+    boolean find(Heard heard, Lexicon lexicon) {
+      if (!found) {
+        lookAhead(heard, lexicon);
+        row.clear();
+        cheapest = heard.frames() > 0 ? cheapestBehind(lexicon, EDGE, 0, NONE) : NEVER;
+        if (cheapest < NEVER) {
+          findRow(heard, lexicon);
+        }
+        found = true;
       }
-      lookAhead(heard, lexicon);
-      row.clear();
-      cheapest = heard.frames() > 0 ? cheapestBehind(lexicon, EDGE, 0, NONE) : NEVER;
-      if (cheapest < NEVER) {
-        findRow(heard, lexicon);
-      }
-      found = true;
+      return cheapest < NEVER;
     }
 
     int cheapestWithAnotherFirst(Lexicon lexicon) {

@@ -16,6 +16,7 @@ public final class PromisesTest {
     least();
     theRow();
     theRowNeedsAllFramesItMayEndWith();
+    theRowOfAllThatFits();
     rowAt();
     beside();
     say();
@@ -393,6 +394,29 @@ public final class PromisesTest {
     row("row: word 2 ahead of word 0", x, 0, 2, 0);
     x.cost(1, 1, 0);
     row("row: word 1 on its two frames", x, 0, 1, 0);
+  }
+
+  /** Eight words with two ways each, forty frames: each pair of frames is what one of the words is said by. */
+  private static void theRowOfAllThatFits() {
+    SoundWords x = clear();
+    for (int w = 0; w < 8; w++) {
+      x.word(w % 6, w / 6, -1, -1);
+      x.way(w, w / 6, w % 6, 5, 5);
+    }
+    for (int f = 0; f < 40; f++) {
+      int w = f / 2 * 5 % 8;
+      x.feed(f % 2 == 0 ? w % 6 : w / 6);
+    }
+    due("row: of forty frames", x.least(), 40);
+    due("row: of twenty words", x.rowSize(), 20);
+    for (int i = 0; i < 20; i++) {
+      due("row: word " + i, x.rowAt(i), i * 5 % 8);
+    }
+    due("row: beside it", x.beside(), 40 + 24);
+    for (int w = 0; w < 8; w++) {
+      x.grammar(w, -1, -1);
+    }
+    due("row: none of the eight may end it", x.least(), NOT);
   }
 
   private static void rowAt() {
@@ -1000,6 +1024,7 @@ public final class PromisesTest {
     x.ears(1, 3, 1);
     due("speech: three side by side", x.speech(0), NOT);
     fullRowOfSpeech();
+    framesThatWereHushedAreNotHeard();
   }
 
   private static void fullRowOfSpeech() {
@@ -1014,6 +1039,22 @@ public final class PromisesTest {
     }
     due("speech: the last five", x.speech(0), 35);
     due("speech: to the end", x.speech(1), 40);
+  }
+
+  private static void framesThatWereHushedAreNotHeard() {
+    SoundWords x = new SoundWords();
+    feedAll(x, 0, 5, 5, 5);
+    x.hush();
+    feedAll(x, 0, 5);
+    due("speech: one loud frame, and what was hushed", x.speech(0), NOT);
+    x.hush();
+    feedAll(x, 5, 5, 0, 0);
+    due("speech: two quiet frames, and what was hushed", x.speech(1), 4);
+    x.hush();
+    for (int f = 0; f < 40; f++) {
+      x.feed(0);
+    }
+    due("speech: forty quiet frames", x.speech(0), NOT);
   }
 
   private static void count() {
