@@ -22,6 +22,10 @@ final class Check {
     return wrong == 0;
   }
 
+  int asked() {
+    return asked;
+  }
+
   void end() {
     System.out.println(asked + " answers, " + wrong + " wrong");
     if (wrong != 0 || asked == 0) {
