@@ -132,6 +132,16 @@ public final class ReadingCasesTest {
     due("least()", x.least(), 40 * 50 + 39 * 20 + 200);
   }
 
+  /** The only row is 0, 1: one begins but may not end, the other ends but may not begin. */
+  static void promise09_least_paysTheMostGrammarAtEachPlace() {
+    SoundWords x = barredToFollow();
+    x.grammar(-1, 0, 100);
+    x.grammar(0, 1, 100);
+    x.grammar(1, -1, 100);
+    due("least()", x.least(), 2 + 300);
+    row(x, 0, 1);
+  }
+
   static void promise09_least_takesEachFrameOnce() {
     SoundWords x = States.sharp();
     x.word(0, 1, -1, -1);
@@ -215,6 +225,14 @@ public final class ReadingCasesTest {
   static void promise10_rowSize_aRowThatAnotherBeginsWithGoesAhead() {
     SoundWords x = States.feedTimes(States.sharpWords(1), 40, 0);
     x.stay(0);
+    due("rowSize()", x.rowSize(), 1);
+  }
+
+  static void promise10_rowSize_aRowThatAnotherBeginsWithGoesAheadWhateverItsEndCosts() {
+    SoundWords x = States.feed(States.sharpWords(1), 0, 0);
+    x.stay(0);
+    x.grammar(0, -1, 100);
+    due("least()", x.least(), 2 + 100);
     due("rowSize()", x.rowSize(), 1);
   }
 
@@ -307,6 +325,18 @@ public final class ReadingCasesTest {
     row(x, 0, 1, 1);
     x.grammar(0, 1, -1);
     row(x, 1, 1, 1);
+  }
+
+  /** A sound that does not fit costs 24 more than one that does: too much to go another way than 0, 1, 2, 0. */
+  static void promise11_rowAt_allIsToldWhereEachPlaceHasItsGrammar() {
+    SoundWords x = States.feed(States.sharpWords(3), 0, 1, 2, 0);
+    x.grammar(-1, 0, 7);
+    x.grammar(0, 1, 5);
+    x.grammar(1, 2, 6);
+    x.grammar(2, 0, 8);
+    x.grammar(0, -1, 9);
+    due("least()", x.least(), 4 + 7 + 5 + 6 + 8 + 9);
+    row(x, 0, 1, 2, 0);
   }
 
   static void promise11_rowAt_aCheaperRowGoesAheadOfTheFirst() {

@@ -357,6 +357,43 @@ public final class ToldRowCasesTest {
     laid(x, 1, 0, 1, 2, 2);
   }
 
+  static void promise15_lay_theNextSoundBeginsLateIfThatIsCheaper() {
+    SoundWords x = States.sharp();
+    x.word(0, 1, -1, -1);
+    States.say(States.feed(x, 0, 0, 0, 1), 0);
+    due("lay()", x.lay(), 4 + 2);
+    laid(x, 0, 0, 0, 0, 1);
+  }
+
+  static void promise15_lay_theNextWordBeginsLateIfThatIsCheaper() {
+    SoundWords x = States.say(States.feed(States.sharpWords(2), 0, 0, 0, 1), 0, 1);
+    due("lay()", x.lay(), 4 + 2);
+    laid(x, 1, 0, 0, 0, 1);
+  }
+
+  /** Behind the fourth sound of way 0 comes no sound of way 1. */
+  static void promise15_lay_ofFourSoundsByWay0EndsWithTheFourth() {
+    SoundWords x = States.sharp();
+    x.word(0, 1, 2, 3);
+    x.way(0, 4, -1, -1, -1);
+    States.say(States.feed(x, 0, 1, 2, 3, 4), 0);
+    due("lay()", x.lay(), 4 + 25 + 1);
+    laid(x, 0, 0, 1, 2, 3, 3);
+    laid(x, 2, 0, 0, 0, 0, 0);
+  }
+
+  static void promise15_lay_ofFourSoundsByWay1AtTheTwelfthPlace() {
+    SoundWords x = States.sharp();
+    x.word(5, -1, -1, -1);
+    x.way(0, 0, 1, 2, 3);
+    States.sayTimes(States.feedTimes(x, 11, 5), 12, 0);
+    States.feed(x, 0, 1, 2, 3);
+    due("lay()", x.lay(), 15);
+    laid(x, 0, 5, 5, 5, 5, 5, 5, 5, 5, 5, 5, 5, 0, 1, 2, 3);
+    laid(x, 1, 0, 1, 2, 3, 4, 5, 6, 7, 8, 9, 10, 11, 11, 11, 11);
+    laid(x, 2, 0, 0, 0, 0, 0, 0, 0, 0, 0, 0, 0, 1, 1, 1, 1);
+  }
+
   /** Beginning with frame 1 needs way 1 of the second word, beginning with frame 2 would have way 0. */
   static void promise15_lay_ofSeveralTheNextWordsBeginningGoesAheadOfItsWay() {
     SoundWords x = new SoundWords();
@@ -537,6 +574,26 @@ public final class ToldRowCasesTest {
 
   static void promise17_edits_aWordTakenOutAtTheBeginningIsOne() {
     SoundWords x = States.say(States.feed(States.sharpWords(4), 0, 1, 2), 3, 0, 1, 2);
+    due("edits()", x.edits(), 1);
+  }
+
+  static void promise17_edits_aWordPutInBetweenIsOne() {
+    SoundWords x = States.say(States.feed(States.sharpWords(4), 0, 3, 1, 2), 0, 1, 2);
+    due("edits()", x.edits(), 1);
+  }
+
+  static void promise17_edits_aWordTakenOutBetweenIsOne() {
+    SoundWords x = States.say(States.feed(States.sharpWords(4), 0, 1, 2), 0, 3, 1, 2);
+    due("edits()", x.edits(), 1);
+  }
+
+  static void promise17_edits_aWordPutInAtTheEndIsOne() {
+    SoundWords x = States.say(States.feed(States.sharpWords(4), 0, 1, 2, 3), 0, 1, 2);
+    due("edits()", x.edits(), 1);
+  }
+
+  static void promise17_edits_aWordTakenOutAtTheEndIsOne() {
+    SoundWords x = States.say(States.feed(States.sharpWords(4), 0, 1, 2), 0, 1, 2, 3);
     due("edits()", x.edits(), 1);
   }
 
