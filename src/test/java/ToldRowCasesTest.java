@@ -536,6 +536,16 @@ public final class ToldRowCasesTest {
     due("edits()", x.edits(), 0);
   }
 
+  static void promise17_edits_askedAgainAreTheSame() {
+    SoundWords x = States.say(States.feed(States.sharpWords(3), 0, 1, 2), 0, 1, 2);
+    due("edits()", x.edits(), 0);
+    due("edits() again", x.edits(), 0);
+    x.unsay();
+    due("edits() of no row told", x.edits(), 3);
+    x.say(0);
+    due("edits() of one word told", x.edits(), 2);
+  }
+
   static void promise17_edits_ofNoRowToldAreAllWordsPutIn() {
     due("one", States.feed(States.sharpWords(1), 0).edits(), 1);
     due("forty", States.feedTimes(States.sharpWords(1), 40, 0).edits(), 40);
