@@ -76,6 +76,11 @@ public final class FaceTest {
         check.holds(method + " is public", Modifier.isPublic(method.getModifiers()));
         check.holds(method + " answers int", method.getReturnType() == int.class);
         check.due(method + " parameters", method.getParameterCount(), parameters.getOrDefault(method.getName(), -1));
+        for (Class<?> type : method.getParameterTypes()) {
+          check.holds(method + " takes int", type == int.class);
+        }
+        check.holds(method + " is not static", !Modifier.isStatic(method.getModifiers()));
+        check.due(method + " declares exceptions", method.getExceptionTypes().length, 0);
       }
     }
     check.due("methods that can be seen", seen, parameters.size());

@@ -149,6 +149,44 @@ public final class ReadingCasesTest {
     due("the fifth is of the second word's last sound", States.feed(x, 1).least(), 4 + 1 + 1);
   }
 
+  static void promise09_least_soundsGoOneBehindTheOther() {
+    SoundWords x = States.sharp();
+    x.word(0, 1, -1, -1);
+    due("in their order", States.feed(x, 0, 1).least(), 2);
+    x.hush();
+    due("not the other way round", States.feed(x, 1, 0).least(), 50);
+  }
+
+  static void promise09_least_eachSoundIsOnOneFrameOrMore() {
+    SoundWords x = States.sharp();
+    x.word(0, 1, 2, -1);
+    due("on two, three and one", States.feed(x, 0, 0, 1, 1, 1, 2).least(), 6 + 1 + 2);
+    x.hush();
+    due("none is left out", States.feed(x, 0, 2, 2).least(), 1 + 25 + 1);
+  }
+
+  static void promise09_least_aWordIsReadByTheCheaperOfItsWays() {
+    SoundWords x = States.sharpWords(1);
+    x.way(0, 3, -1, -1, -1);
+    due("way 0", States.feed(x, 0).least(), 1);
+    x.hush();
+    due("way 1", States.feed(x, 3).least(), 1);
+  }
+
+  static void promise09_least_aWordIsReadByBothWaysInOneRow() {
+    SoundWords x = States.sharpWords(1);
+    x.way(0, 3, 4, -1, -1);
+    due("least()", States.feed(x, 0, 3, 4, 0, 0, 3, 4).least(), 7);
+    row(x, 0, 0, 0, 0, 0);
+  }
+
+  static void promise09_least_theWaysOfAWordAreNotMixed() {
+    SoundWords x = States.sharp();
+    x.word(0, 1, -1, -1);
+    x.way(0, 2, 3, -1, -1);
+    due("the first of way 0, the second of way 1", States.feed(x, 0, 3).least(), 1 + 25);
+  }
+
   static void promise09_least_isFoundAnewBehindEachChange() {
     SoundWords x = States.feed(States.sharpWords(1), 0);
     due("at first", x.least(), 1);
@@ -327,6 +365,17 @@ public final class ReadingCasesTest {
     row(x, 1, 1, 1);
   }
 
+  /** Word 0 needs its way 1 to cost as little as word 1 does by its way 0. */
+  static void promise11_rowAt_ofSeveralTheWordDecidesAndNotTheWay() {
+    SoundWords x = States.sharp();
+    x.word(5, -1, -1, -1);
+    x.way(0, 3, -1, -1, -1);
+    x.word(3, -1, -1, -1);
+    States.feed(x, 3, 3);
+    due("least()", x.least(), 2);
+    row(x, 0, 0);
+  }
+
   /** A sound that does not fit costs 24 more than one that does: too much to go another way than 0, 1, 2, 0. */
   static void promise11_rowAt_allIsToldWhereEachPlaceHasItsGrammar() {
     SoundWords x = States.feed(States.sharpWords(3), 0, 1, 2, 0);
@@ -429,6 +478,23 @@ public final class ReadingCasesTest {
     x.grammar(-1, 1, 90);
     due("least()", x.least(), 2);
     due("beside()", x.beside(), 25 + 1 + 90);
+  }
+
+  /** Word 1 fits by its way 1 on two frames, and word 0 on the third; all joints cost something. */
+  static void promise12_beside_isTheCheapestReadingOfAllFrames() {
+    SoundWords x = States.sharpWords(1);
+    x.word(5, -1, -1, -1);
+    x.way(1, 0, 1, -1, -1);
+    x.grammar(-1, 1, 3);
+    x.grammar(1, 0, 4);
+    x.grammar(0, -1, 5);
+    States.feed(x, 0, 1, 0);
+    due("least()", x.least(), 3 + 1 + 1 + 4 + 1 + 5);
+    due("rowAt(0)", x.rowAt(0), 1);
+    due("beside()", x.beside(), 1 + 25 + 1 + 5);
+    x.grammar(-1, 1, 60);
+    due("rowAt(0) then", x.rowAt(0), 0);
+    due("beside() then", x.beside(), 60 + 1 + 1 + 4 + 1 + 5);
   }
 
   static void promise12_beside_isTheEighthWordsIfThatIsNearest() {

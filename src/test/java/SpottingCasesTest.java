@@ -98,6 +98,27 @@ public final class SpottingCasesTest {
     spotted(x, 0, 1, 2, 1);
   }
 
+  static void promise22_spot_isByTheCheaperOfItsWays() {
+    SoundWords x = States.sharpWords(1);
+    x.way(0, 3, 4, -1, -1);
+    spotted(States.feed(x, 5, 3, 4), 0, 1, 3, 2);
+    x.hush();
+    spotted(States.feed(x, 5, 5, 0), 0, 2, 3, 1);
+  }
+
+  static void promise22_spot_theWaysOfAWordAreNotMixed() {
+    SoundWords x = States.sharp();
+    x.word(0, 1, -1, -1);
+    x.way(0, 2, 3, -1, -1);
+    spotted(States.feed(x, 0, 3), 0, 0, 2, 1 + 25);
+  }
+
+  static void promise22_spot_soundsGoOneBehindTheOther() {
+    SoundWords x = States.sharp();
+    x.word(0, 1, -1, -1);
+    spotted(States.feed(x, 1, 0, 1, 0), 0, 1, 3, 2);
+  }
+
   static void promise22_spot_badGoesAheadOfNot() {
     Cases.refused(States::oneWordTold, BAD, x -> x.spot(1, 0));
     Cases.refused(States::oneWordTold, BAD, x -> x.spot(0, 3));

@@ -425,6 +425,92 @@ public final class ToldRowCasesTest {
     laid(x, 1, 0, 0, 1);
   }
 
+  static void promise15_lay_ofSeveralWay0OfTheNextWordGoesAhead() {
+    SoundWords x = States.say(States.feedTimes(States.sharpWords(2), 3, -1), 0, 1);
+    x.way(1, 2, -1, -1, -1);
+    due("lay()", x.lay(), 31);
+    laid(x, 1, 0, 1, 1);
+    laid(x, 2, 0, 0, 0);
+    laid(x, 0, 0, 1, 1);
+  }
+
+  /** A word of two ways that cost the same: by way 0 the second sound begins with frame 2, by way 1 with frame 1. */
+  private static SoundWords laterByWay0() {
+    SoundWords x = States.sharp();
+    x.word(0, 1, -1, -1);
+    x.way(0, 2, 3, -1, -1);
+    x.stay(0);
+    x.cost(0, 6, 1);
+    x.cost(3, 6, 1);
+    x.cost(2, 0, 1);
+    x.cost(3, 1, 1);
+    return x;
+  }
+
+  static void promise15_lay_ofSeveralTheFirstWordsWayGoesAheadOfItsSecondSound() {
+    SoundWords x = States.say(States.feed(laterByWay0(), 0, 6, 1), 0);
+    due("lay()", x.lay(), 3);
+    laid(x, 2, 0, 0, 0);
+    laid(x, 0, 0, 0, 1);
+  }
+
+  static void promise15_lay_ofSeveralTheNextWordsWayGoesAheadOfItsSecondSound() {
+    SoundWords x = laterByWay0();
+    x.word(5, -1, -1, -1);
+    States.say(States.feed(x, 5, 0, 6, 1), 1, 0);
+    due("lay()", x.lay(), 4);
+    laid(x, 1, 0, 1, 1, 1);
+    laid(x, 2, 0, 0, 0, 0);
+    laid(x, 0, 5, 0, 0, 1);
+  }
+
+  /** Each word may be said in one sound or two: where to stay costs nothing, all that fits costs the same. */
+  static void promise15_lay_ofSeveralAndSoOnToTheLastWord() {
+    SoundWords x = States.say(States.feedTimes(States.sharpWords(3), 6, -1), 0, 1, 2);
+    for (int w = 0; w < 3; w++) {
+      x.way(w, w, w, -1, -1);
+    }
+    x.stay(0);
+    due("lay()", x.lay(), 60);
+    laid(x, 1, 0, 1, 2, 2, 2, 2);
+    laid(x, 2, 0, 0, 0, 0, 0, 0);
+    x.stay(1);
+    due("lay() where to stay costs", x.lay(), 60);
+    laid(x, 1, 0, 0, 1, 1, 2, 2);
+    laid(x, 2, 1, 1, 1, 1, 1, 1);
+  }
+
+  static void promise15_lay_aWordIsLaidByBothWaysInOneRow() {
+    SoundWords x = States.sharpWords(1);
+    x.way(0, 3, 4, -1, -1);
+    States.say(States.feed(x, 3, 4, 0, 3, 4), 0, 0, 0);
+    due("lay()", x.lay(), 5);
+    laid(x, 1, 0, 0, 1, 2, 2);
+    laid(x, 2, 1, 1, 0, 1, 1);
+    laid(x, 0, 3, 4, 0, 3, 4);
+  }
+
+  static void promise15_lay_theWaysOfAWordAreNotMixed() {
+    SoundWords x = States.sharp();
+    x.word(0, 1, -1, -1);
+    x.way(0, 2, 3, -1, -1);
+    States.say(States.feed(x, 0, 3), 0);
+    due("lay()", x.lay(), 1 + 25);
+    laid(x, 2, 0, 0);
+    laid(x, 0, 0, 1);
+  }
+
+  static void promise15_lay_paysTheGrammarOfTheToldRow() {
+    SoundWords x = States.say(States.feed(States.sharpWords(2), 0, 1, 0), 0, 1, 0);
+    x.grammar(-1, 0, 7);
+    x.grammar(0, 1, 11);
+    x.grammar(1, 0, 13);
+    x.grammar(0, -1, 17);
+    x.grammar(-1, 1, 50);
+    x.grammar(1, -1, 50);
+    due("lay()", x.lay(), 3 + 7 + 11 + 13 + 17);
+  }
+
   // ---- promise 16: laid
 
   static void promise16_laid_ofFrame0IsTold() {
